@@ -12,7 +12,7 @@ public final class ModelTests {
     private static final String[] VARS = {"sense", "dark", "fog", "long", "day", "lanes", "which", "sold", "miles"};
     private static final int TEXTS = 220;
     private static final int CALLS = 90;
-    private static final int WRONG_TEXTS = 12000;
+    private static final int WRONG_TEXTS = 4000;
 
     private final Random random;
     private final String from;
@@ -297,6 +297,28 @@ public final class ModelTests {
         }
     }
 
+    private void lightly() {
+        all(from + "lightly ");
+        for (int s = 0; s < m.count(2); s++) {
+            due.is(from + "tells(" + s + ", 7, 0)", x.tells(s, 7, 0), m.tells(s, 7, 0));
+            due.is(from + "tells(" + s + ", 7, 1)", x.tells(s, 7, 1), m.tells(s, 7, 1));
+            due.is(from + "strays(" + s + ", 0)", x.strays(s, 0), m.strays(s, 0));
+            due.is(from + "walk(" + s + ", 3)", x.walk(s, 3), m.walk(s, 3));
+            due.is(from + "walk(" + s + ", 4)", x.walk(s, 4), m.walk(s, 4));
+            due.is(from + "seeker(" + s + ", 0)", x.seeker(s, 0), m.seeker(s, 0));
+            due.is(from + "seeker(" + s + ", 1)", x.seeker(s, 1), m.seeker(s, 1));
+        }
+        for (int c = 0; c < m.count(0); c++) {
+            due.is(from + "shortest(" + c + ")", x.shortest(c), m.shortest(c));
+        }
+        for (int l = 0; l < m.count(1); l++) {
+            for (int what = 0; what < 3; what++) {
+                due.is(from + "lane(" + l + ", " + what + ")", x.lane(l, what), m.lane(l, what));
+            }
+        }
+        due.is(from + "fogIn(3)", x.fogIn(3), m.fogIn(3));
+    }
+
     private void calls() {
         type(text().getBytes(StandardCharsets.ISO_8859_1));
         all(from + "at first ");
@@ -317,10 +339,6 @@ public final class ModelTests {
                 default:
                     askOfTold(s, c, l);
             }
-        }
-        if (up(3) == 0) {
-            type(muddled(text()));
-            all(from + "at last ");
         }
     }
 
@@ -411,11 +429,18 @@ public final class ModelTests {
         int[] faults = new int[6];
         for (int i = 0; i < WRONG_TEXTS && due.wrong() < 100; i++) {
             ModelTests t = new ModelTests(1000000 + i);
-            faults[t.type(i % 2 == 0 ? t.spoiled(t.text()) : t.muddled(t.text()))]++;
+            for (int again = 0; again < 3; again++) {
+                faults[t.type(i % 2 == 0 ? t.spoiled(t.text()) : t.muddled(t.text()))]++;
+                t.lightly();
+            }
         }
         System.out.println("texts by their faults: " + java.util.Arrays.toString(faults));
         for (int i = 0; i < TEXTS && due.wrong() < 100; i++) {
-            new ModelTests(i).calls();
+            ModelTests t = new ModelTests(i);
+            t.calls();
+            t.type(t.muddled(t.text()));
+            t.type(t.muddled(t.text()));
+            t.all(t.from + "at last ");
         }
         due.end();
     }

@@ -218,6 +218,73 @@ public final class PromiseTests {
         due.is("the last wrong", x.may(0), 49152);
     }
 
+    /** Nothing of texts ahead is left in a later one, however many there were. */
+    private static void readOften() {
+        LostBuyer x = new LostBuyer();
+        String much = TRIANGLE + "post a 1; post b 1; post h 1; strays = 3; asks = 5; fears = 6; thickens = 7; "
+                + "wrong 0; mist 8; seed 9999;";
+        String bare = CORNERS + "lane a b 3; seeker s 3 b; ";
+        for (int i = 0; i < 4; i++) {
+            Due.type(x, much);
+            due.is("read() of much", x.read(), 0);
+            due.is("strays(0, 0) of much", x.strays(0, 0), 3);
+            due.is("tells(0, 9, 0) of much", x.tells(0, 9, 0), 5);
+            due.is("corner(2, 1) of much", x.corner(2, 1), 5);
+            if (i < 2) {
+                Due.type(x, much);
+                due.is("read() of much again", x.read(), 0);
+            }
+            Due.type(x, bare);
+            due.is("read() of little", x.read(), 0);
+            due.is("house of little", x.count(12), 0);
+            due.is("strays of little", x.strays(0, 1), 1);
+            due.is("asks of little", x.tells(0, 9, 0), 9);
+            due.is("fears of little", x.tells(0, 9, 1), 9);
+            due.is("mist of little", x.count(4), 0);
+            due.is("thickens of little", x.fogIn(3), 0);
+            due.is("post of little", x.turn(1, 0), false);
+            due.is("lanes of little", x.corner(1, 1), 1);
+            due.is("lanes of little", x.corner(2, 1), 0);
+            due.is("wrong of little", x.may(0), 0);
+            due.is("shortest of little", x.shortest(2), -2);
+        }
+        for (int i = 0; i < 6; i++) {
+            Due.type(x, TO_AND_FRO + "seed " + (i % 3 == 0 ? "9" : "0") + ";");
+            due.is("read() of a seed", x.read(), 0);
+            Due.type(x, TO_AND_FRO);
+            due.is("read() without a seed", x.read(), 0);
+            due.is("walk without a seed", x.walk(0, 3), 43);
+        }
+        String law = "asks = " + times("miles + 1 - ", 30) + "1;";
+        for (int i = 0; i < 20; i++) {
+            Due.type(x, TRIANGLE + law);
+            due.is("read() of a long law", x.read(), 0);
+            due.is("the long law", x.tells(0, 1, 0), 1);
+        }
+        Due.type(x, "corner abcdefgh 1;");
+        due.is("read() of 8 letters", x.read(), 0);
+        Due.type(x, "corner abcdefghi 1;");
+        due.is("read() of 9 letters", x.read(), 1);
+        due.is("place() of 9 letters", x.place(), 7);
+        Due.type(x, "corner abcdefgh 12345;");
+        due.is("read() of 5 digits", x.read(), 1);
+        due.is("place() of 5 digits", x.place(), 16);
+    }
+
+    private static void fullTapes() {
+        fault(times(" ", 2000), 0, -1);
+        fault(times(" ", 1992) + "mist 10;", 5, 1997);
+        fault(times(" ", 1995) + "wrong", 1, 2000);
+        fault(times(" ", 1994) + "wrong1", 1, 2000);
+        fault(times(" ", 1994) + "mist1;", 0, -1);
+        fault(times("a", 2000), 1, 0);
+        fault(times("1", 2000), 1, 0);
+        fault("wrong " + times("1", 1994), 1, 6);
+        fault(times(";", 2000), 1, 0);
+        fault("asks=" + times("1+", 198) + "1;", 0, -1);
+        fault("asks=" + times("1+", 199) + "1;", 2, 5 + 398);
+    }
+
     private static void whatThereIs() {
         LostBuyer x = due.of(TRIANGLE + "post a 3; post b 4;");
         int[][] corners = {{1, 3, 1, 0, -1}, {2, 6, 1, 0, -1}, {3, 5, 0, 1, -1}, {4, 0, -2, 0, -1}};
@@ -325,6 +392,15 @@ public final class PromiseTests {
         sum("9999 * 9999 * 9999 / 1000 / 1000 + 1500", 473);
         // -2 to the 31 by -1 wraps to itself
         sum("if 8192 * 8192 * 32 / (0 - 1) < 0 then 1 else 2", 1);
+        sum("if ((((((1)))))) < ((((((2)))))) then ((((((3)))))) else ((((((4))))))", 3);
+        sum("if ((((((3)))))) < ((((((2)))))) then ((((((3)))))) else ((((((4))))))", 4);
+        String deep = "1 + 2 * (1 + 2 * (1 + 2 * (1 + 2 * (1 + 2 * (1 + 2 * (1 + 2 * miles))))))";
+        // 127 + 128 * 7
+        sum(deep + " - 100", 923);
+        sum("if 9999 < " + deep + " then 1 else if 1022 < " + deep + " then 2 else if 1023 < " + deep
+                + " then 3 else if 9998 < " + deep + " then 4 else 5", 2);
+        sum("if 9999 < " + deep + " then 1 else if 9998 < " + deep + " then 2 else if 9997 < " + deep
+                + " then 3 else if 9996 < " + deep + " then 4 else " + deep + " - 100", 923);
         sum("1+(2+(3+(4+(5+(6+7*miles)*1)*1)*1)*1)*1", 70);
         sum("1*2+3*(4*5+6*(7*8+9*(1*2+3*(4*5+6*(7-6*1)))))/100", 2 + 3 * (20 + 6 * (56 + 9 * (2 + 3 * 26))) / 100);
     }
@@ -537,6 +613,9 @@ public final class PromiseTests {
         due.is("clearest 2", x.clearest(0, 2), -1);
         due.is("clearest -1", x.clearest(0, -1), -1);
         due.is("count(4) as ahead", x.count(4), 0);
+        due.is("clearest of the most fog", due.of(LINE + "strays = fog - 5;").clearest(0, 0), 9);
+        due.is("clearest of none", due.of(LINE + "strays = 0;").clearest(0, 0), 0);
+        due.is("clearest of none", due.of(LINE + "strays = 0;").clearest(0, 1), 0);
         x = due.of(LINE + "strays = fog; thickens = fog + 1;");
         due.is("waits(0, 0, 0)", x.waits(0, 0, 0), 0);
         due.is("waits(0, 0, 1)", x.waits(0, 0, 1), 0);
@@ -671,6 +750,14 @@ public final class PromiseTests {
         due.is("forget again", x.forget(), 0);
         due.is("tell anew", x.tell(0, 3, 2, true), 0);
         due.is("ways: once at h, there still", x.ways(1, 0, 0), 3);
+        // who goes by b STRAYS there (bits 2), who goes by c STRAYED at a (bits 1)
+        String fork = "corner b 4; corner c 0; corner h 0; lane a b 1; lane a c 1; lane b h 1; lane c h 1; post c 1; "
+                + "house h; seeker s 0 a; strays = dark;";
+        x = due.of("corner a 2; " + fork);
+        due.is("ways of a fork", x.ways(0, 0, 0), 2);
+        due.is("most of a fork, alike", x.ways(0, 0, 2), 1);
+        due.is("most of a fork, 3 quarters by b", due.of("corner a 1; " + fork).ways(0, 0, 2), 2);
+        due.is("most of a fork, 3 quarters by c", due.of("corner a 3; " + fork).ways(0, 0, 2), 1);
         // alike in CASES: two quarters each way, all of 4 to the 8 over 2 to the 8
         x = due.of(TO_AND_FRO + "strays = 2;");
         due.is("ways of halves", x.ways(0, 0, 0), 256);
@@ -726,6 +813,8 @@ public final class PromiseTests {
         roomFaults();
         otherFaults();
         readInPlace();
+        readOften();
+        fullTapes();
         whatThereIs();
         laws();
         sending();
