@@ -94,11 +94,8 @@ public final class LostBuyer {
     private final byte[] tape;
     private int fed;
     private int faultPlace;
-    private final Tokens tokens;
     private final Reader reader;
     private Town town;
-    /** A text is read into this one, so that a FAULT leaves the other as it was. */
-    private Town spare;
     private final State now;
     /** What would be is tried out on this one. */
     private final State guess;
@@ -112,10 +109,8 @@ public final class LostBuyer {
         tape = new byte[TAPE];
         fed = 0;
         faultPlace = NONE;
-        tokens = new Tokens();
+        reader = new Reader();
         town = new Town();
-        spare = new Town();
-        reader = new Reader(tokens, spare);
         now = new State();
         guess = new State();
         history = new History();
@@ -125,7 +120,7 @@ public final class LostBuyer {
         }
         held = new boolean[SLOTS];
         notes = new Notes();
-        walks = new Walks(town);
+        walks = new Walks();
     }
 
     // ---- the tape and the text
@@ -158,14 +153,13 @@ public final class LostBuyer {
     }
 
     public int read() {
-        tokens.scan(tape, fed);
+        int fault = reader.parse(tape, fed);
         fed = 0;
-        int fault = reader.parse(spare);
         faultPlace = reader.faultPlace;
         if (fault == 0) {
-            Town old = town;
-            town = spare;
-            spare = old;
+            Town told = reader.town;
+            reader.town = town;
+            town = told;
             town.finish();
             now.startIn(town);
             history.clear();
@@ -841,11 +835,12 @@ public final class LostBuyer {
         }
     }
 
-    /** Reads a text's TOKENS into a town. */
+    /** Reads a tape into a town. */
     private static final class Reader {
         int faultPlace;
+        /** Not the one that goes on, so that a FAULT leaves that as it was. */
+        Town town;
         private final Tokens tokens;
-        private Town town;
         private int at;
         /** The FAULT at the TOKEN where the parse stops, if it does. */
         private int hard;
@@ -856,16 +851,16 @@ public final class LostBuyer {
         private final long[] seekerNames;
         private int posts;
 
-        Reader(Tokens scanned, Town first) {
+        Reader() {
             faultPlace = NONE;
-            tokens = scanned;
-            town = first;
+            tokens = new Tokens();
+            town = new Town();
             cornerNames = new long[CORNERS];
             seekerNames = new long[SEEKERS];
         }
 
-        int parse(Town into) {
-            town = into;
+        int parse(byte[] tape, int length) {
+            tokens.scan(tape, length);
             town.clear();
             at = 0;
             posts = 0;
@@ -1355,10 +1350,6 @@ public final class LostBuyer {
             return one[lane] == corner ? other[lane] : one[lane];
         }
 
-        boolean endsAt(int corner) {
-            return corner == house || degree[corner] == 0;
-        }
-
         int cornersWithoutLanes() {
             int bits = 0;
             for (int corner = 0; corner < corners; corner++) {
@@ -1540,13 +1531,15 @@ public final class LostBuyer {
         /** The CORNER behind each number of STEPS, CORNER_BITS a piece. */
         private final int[] path;
         private final int[] quarters;
-        private final int[] shown;
-        private final int[] behind;
-        private Town town;
+        private final boolean[] ends;
+        /** Two for each CORNER, of one who does not STRAY there, and of one who does. */
+        private final int[] takes;
+        private final int[] leads;
+        private final int[] far;
+        private int house;
         private int enough;
 
-        Walks(Town first) {
-            town = first;
+        Walks() {
             at = new int[WALKS];
             walked = new int[WALKS];
             steps = new int[WALKS];
@@ -1557,36 +1550,38 @@ public final class LostBuyer {
             again = new boolean[WALKS];
             path = new int[WALKS];
             quarters = new int[CORNERS];
-            shown = new int[CORNERS];
-            behind = new int[CORNERS];
+            ends = new boolean[CORNERS];
+            takes = new int[2 * CORNERS];
+            leads = new int[2 * CORNERS];
+            far = new int[2 * CORNERS];
         }
 
-        void goAllWays(Town where, State state, int seeker) {
-            setOut(where, state, seeker);
+        void goAllWays(Town town, State state, int seeker) {
+            setOut(town, state, seeker);
             for (int step = 0; step < STEPS; step++) {
                 int before = many;
                 for (int n = 0; n < before; n++) {
-                    if (!town.endsAt(at[n])) {
+                    if (!ends[at[n]]) {
                         part(n);
                     }
                 }
             }
         }
 
-        void goByLot(Town where, State state, int seeker, int seed) {
-            setOut(where, state, seeker);
+        void goByLot(Town town, State state, int seeker, int seed) {
+            setOut(town, state, seeker);
             int which = 64 * state.day + 8 * seeker;
-            for (int step = 0; step < STEPS && !town.endsAt(at[0]); step++) {
+            for (int step = 0; step < STEPS && !ends[at[0]]; step++) {
                 move(0, lot(QUARTERS, seed, which + step) < quarters[at[0]]);
             }
         }
 
         boolean came(int n) {
-            return at[n] == town.house;
+            return at[n] == house;
         }
 
         boolean mayBuy(int n) {
-            return at[n] == town.house && strayed[n] != 0 && walked[n] >= enough;
+            return at[n] == house && strayed[n] != 0 && walked[n] >= enough;
         }
 
         int casesWith(int[] row, int bit) {
@@ -1604,15 +1599,16 @@ public final class LostBuyer {
             return path[n] >>> CORNER_BITS * Math.min(i, steps[n]) & (1 << CORNER_BITS) - 1;
         }
 
-        private void setOut(Town where, State state, int seeker) {
-            town = where;
+        private void setOut(Town town, State state, int seeker) {
             int from = town.home[seeker];
+            house = town.house;
             enough = town.milesToHouse[from] + town.wrong;
             for (int corner = 0; corner < town.corners; corner++) {
-                if (!town.endsAt(corner)) {
+                ends[corner] = corner == house || town.degree[corner] == 0;
+                if (!ends[corner]) {
                     quarters[corner] = town.quartersAstray(state, seeker, corner);
-                    shown[corner] = town.laneAt(corner, state.signs[corner]);
-                    behind[corner] = town.laneAt(corner, state.signs[corner] + 1);
+                    learn(town, corner, state.signs[corner], 0);
+                    learn(town, corner, state.signs[corner] + 1, 1);
                 }
             }
             many = 1;
@@ -1625,6 +1621,15 @@ public final class LostBuyer {
             used[0] = 0;
             again[0] = false;
             path[0] = from;
+        }
+
+        private void learn(Town town, int corner, int place, int stray) {
+            int lane = town.laneAt(corner, place);
+            if (lane != NONE) {
+                takes[2 * corner + stray] = lane;
+                leads[2 * corner + stray] = town.farEnd(lane, corner);
+                far[2 * corner + stray] = town.far[lane];
+            }
         }
 
         /** The row goes on without STRAYING; if one can do either, a new row goes STRAYING. */
@@ -1653,16 +1658,15 @@ public final class LostBuyer {
         }
 
         private void move(int n, boolean stray) {
-            int corner = at[n];
-            int lane = stray ? behind[corner] : shown[corner];
-            int to = town.farEnd(lane, corner);
+            int way = 2 * at[n] + (stray ? 1 : 0);
+            int to = leads[way];
             if (stray) {
                 strayed[n] |= 1 << steps[n];
             }
             steps[n]++;
             at[n] = to;
-            walked[n] += town.far[lane];
-            used[n] |= 1 << lane;
+            walked[n] += far[way];
+            used[n] |= 1 << takes[way];
             again[n] |= (seen[n] & 1 << to) != 0;
             seen[n] |= 1 << to;
             path[n] |= to << CORNER_BITS * steps[n];

@@ -126,8 +126,11 @@ public final class ModelTests {
 
     /** A number of 0 .. most, now and then one beside. */
     private int of(int most) {
-        int r = up(40);
-        return r == 0 ? -1 : r == 1 ? most + 1 : up(most + 1);
+        int r = up(160);
+        if (r < 2) {
+            return r == 0 ? Integer.MIN_VALUE : Integer.MAX_VALUE;
+        }
+        return r < 5 ? -1 : r < 8 ? most + 1 : up(Math.max(1, most + 1));
     }
 
     private void all(String ahead) {

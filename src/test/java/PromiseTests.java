@@ -61,6 +61,11 @@ public final class PromiseTests {
         due.is("count(8)", x.count(8), 2000);
         due.is("back(1)", x.back(1), 1999);
         due.is("feed beyond", x.feed(0, 0, 0, 0, 0), -1);
+        due.is("back(18)", x.back(18), 1981);
+        due.is("feed to 2001", x.feed(0, 0, 0, 0, 0), -1);
+        due.is("back(1)", x.back(1), 1980);
+        due.is("feed to 2000", x.feed(0, 0, 0, 0, 0), 2000);
+        due.is("back(1)", x.back(1), 1999);
         due.is("back(min)", x.back(Integer.MIN_VALUE), -1);
         due.is("back(max)", x.back(Integer.MAX_VALUE), -1);
         due.is("back(1999)", x.back(1999), 0);
@@ -152,6 +157,9 @@ public final class PromiseTests {
 
     private static void otherFaults() {
         fault("corner a 1; corner a 1;", 3, 19);
+        fault(times("corner #aaaaaaa 1;", 7), 0, -1);
+        fault(times("corner aaaaaaa# 1;", 7), 0, -1);
+        fault("corner a 1; corner aa 1; corner aaa 1; corner aaaa 1; seeker aaaaa 1 a;", 0, -1);
         fault("corner a 1; seeker a 1 a;", 3, 19);
         fault("corner a 1; seeker b 1 a; seeker b 1 a;", 3, 33);
         fault("corner a 1; seeker b 1 a; corner b 1;", 3, 33);
