@@ -206,6 +206,26 @@ public final class CallEdgeTests {
         for (int i = 0; i < scenes.length; i++) {
             Twins.unchanged(due, "all asked in scene " + i, scenes[i], Twins::all);
         }
+        // nor is anything left of what was asked while there were more WALKS
+        Twins.unchanged(due, "all asked in more FOG", y -> put(y, SWING + "strays = dark * fog;"), y -> {
+            y.fog(true);
+            Twins.all(y);
+            y.undo();
+        });
+        LostBuyer x = due.of(SWING + "strays = dark * fog;");
+        for (int s = 0; s < 3; s++) {
+            due.is("MAY by FOG", x.clearest(s, 1), 65536);
+            due.is("WORTH without FOG", x.worth(s), 0);
+            due.is("MAY by FOG", x.clearest(s, 0), 4);
+            due.is("NEVER without FOG", x.never(s), s == 2 ? 4 : 12);
+            due.is("MAY by FOG", x.clearest(s, 0), 4);
+            due.is("SPAN without FOG", x.span(s, 1), -2);
+        }
+        Twins.unchanged(due, "all asked of a turned SIGN", y -> put(y, TRIANGLE + "strays = fog; mist 2; post b 1;"), y -> {
+            y.turn(0, 1);
+            Twins.all(y);
+            y.undo();
+        });
     }
 
     // ---- promises 6 to 10
@@ -292,6 +312,11 @@ public final class CallEdgeTests {
         due.is("sent again", x.send(2), 3);
         due.is("the next one", x.send(1), 2);
         due.is("bought", x.count(5), 1);
+        // t STRAYS at once, 5 miles; s goes by b, 6
+        due.is("for the miles walked", x.count(6), 5);
+        due.is("undo()", x.undo(), true);
+        due.is("send(0)", x.send(0), 2);
+        due.is("for the miles walked", x.count(6), 6);
     }
 
     /** Promise 12: "false, and nothing happens: it is that number already (0, if nothing was told, nor turned to), no LANES, no such ones" */
@@ -717,6 +742,28 @@ public final class CallEdgeTests {
         due.is("TURN, the least number", due.of(far + "post a 2;").turned(0, true, 0), 0);
         due.is("TURN, more than now alone", due.of(far).turned(0, true, 0), -2);
         due.is("ENEMY, the least number", due.of(far).turned(0, false, 0), 2);
+        // one SIGN is turned, all others are as now: 5 miles more is what both would make, but none alone
+        String both = "corner a 4; corner b 0; corner h 0; lane a b 5; lane a b 1; lane b h 1; lane b h 5; post b 2; house h; "
+                + "wrong 5; strays = dark; seeker s 0 a; ";
+        due.is("TURN of two at once", due.of(both).turned(0, true, 0), -2);
+        due.is("TURN of the other", due.of(both + "post a 1;").turned(0, true, 0), 13);
+        due.is("TURN of the one", due.of(both + "post b 3;").turned(0, true, 0), 1);
+        // FOG, day, SOLD are as now
+        String now = far + "strays = fog + day + sold; post a 2; mist 2; ";
+        LostBuyer f = due.of(now);
+        due.is("TURN by FOG 2", f.turned(0, true, 1), 32768);
+        due.is("MAY by no FOG, as the SIGN is", f.clearest(0, 1), 0);
+        f.days(1);
+        due.is("TURN by day 1", f.turned(0, true, 1), 49152);
+        f.turn(0, 0);
+        f.fog(true);
+        f.send(0);
+        f.fog(false);
+        f.fog(false);
+        f.fog(false);
+        f.turn(0, 2);
+        due.is("SOLD", f.count(5), 0);
+        due.is("TURN by day 1, SOLD", f.turned(0, true, 1), 32768);
         due.is("without LANES", due.of("corner a 0; seeker s 0 a; wrong 0;").turned(0, true, 0), -2);
         due.is("without LANES", due.of("corner a 0; seeker s 0 a; wrong 0;").turned(0, false, 1), -2);
     }
@@ -739,6 +786,15 @@ public final class CallEdgeTests {
         due.is("turn away", x.turn(3, 8), true);
         due.is("one", x.lead(0), 1);
         due.is("behind it none", x.lead(1), 0);
+        // LANES lead both ways
+        LostBuyer y = due.of("corner h 0; corner f 0; corner e 0; corner d 0; lane h f 1; lane f e 1; lane e d 1; post f 1; post e 1; "
+                + "house h; seeker s 0 d; seeker t 0 e; ");
+        due.is("told the other way", y.lead(0), 2);
+        due.is("told the other way", y.lead(1), 2);
+        y.turn(2, 0);
+        due.is("told the other way, one turned", y.lead(0), 1);
+        y.turn(1, 0);
+        due.is("told the other way, both turned", y.lead(0), 0);
         // the way by which fewest are turned, not that of fewest miles
         due.is("far, but as told", due.of("corner a 0; corner b 0; corner h 0; lane a b 9; lane b h 9; lane a h 1; post b 1; house h; "
                 + "seeker s 0 a;").lead(0), 0);
@@ -936,6 +992,35 @@ public final class CallEdgeTests {
         }
     }
 
+    /** Of seven CORNERS, too: from e by g to a or b, and back to g, by halves. */
+    private static void sevenCorners() {
+        String seven = "corner a 0; corner b 0; corner c 0; corner d 0; corner e 0; corner f 0; corner g 2; lane g a 1; lane g b 1; "
+                + "lane g e 1; house c; strays = dark; seeker s 0 e; ";
+        int[][] ways = {{0, 0, 0, 0, 16, 0, 0}, {0, 0, 0, 0, 0, 0, 16}, {8, 8, 0, 0, 0, 0, 0}};
+        for (int i = 0; i <= 8; i++) {
+            for (int c = 0; c < 7; c++) {
+                LostBuyer x = due.of(seven);
+                x.tell(0, i, c, true);
+                int there = ways[i == 0 ? 0 : 2 - i % 2][c];
+                due.is("WAYS at " + c + " behind " + i, x.ways(1, 0, 0), there);
+                due.is("CASES at " + c + " behind " + i, x.ways(1, 0, 1), there * 4096);
+                LostBuyer y = due.of(seven);
+                y.tell(0, i, c, false);
+                due.is("WAYS not at " + c + " behind " + i, y.ways(1, 0, 0), 16 - there);
+            }
+        }
+        LostBuyer z = due.of(seven);
+        due.is("look by seven", z.look(0, 0), 2);
+        z.tell(0, 2, 0, true);
+        due.is("look by seven, one told", z.look(1, 0), 4);
+        z.tell(0, 6, 1, false);
+        z.tell(0, 4, 1, true);
+        due.is("look by seven, three told", z.look(3, 0), 8);
+        z.tell(0, 8, 0, true);
+        due.is("look by seven, all told", z.look(4, 0), 1);
+        due.is("STRAYED at STEP 3 alone", z.ways(4, 0, 2), 8);
+    }
+
     /** Promise 40: "that with most CASES, of alike ones the least bits"; promise 41: "fewest WAYS are left, at worst; of alike ones the first" */
     private static void alikeOnes() {
         String fork = "corner b 4; corner c 0; corner h 0; lane a b 1; lane a c 1; lane b h 1; lane c h 1; post c 1; house h; "
@@ -1111,6 +1196,7 @@ public final class CallEdgeTests {
         forget();
         waysAndLook();
         behind();
+        sevenCorners();
         alikeOnes();
         hold();
         restore();

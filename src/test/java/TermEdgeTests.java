@@ -120,11 +120,19 @@ public final class TermEdgeTests {
 
     private static void var(String law, int var, int value) {
         for (int v = Math.max(0, value - 1); v <= value + 1; v++) {
-            LostBuyer x = due.of(SCENE + law + " = if " + VARS[var] + " < " + v + " then 0 else if " + v + " < " + VARS[var]
-                    + " then 0 else 1;");
+            LostBuyer x = due.of(SCENE + "strays = miles; asks = dark; fears = long; thickens = lanes; " + law + " = if "
+                    + VARS[var] + " < " + v + " then 0 else if " + v + " < " + VARS[var] + " then 0 else 1;");
             x.days(4);
-            while (x.count(4) < 5) {
+            for (int i = 0; i < 9 && x.count(4) < 5; i++) {
                 x.fog(true);
+            }
+            // what another LAW was told of is not told for this one
+            x.strays(1, 1);
+            x.tells(1, 50, 0);
+            x.tells(1, 50, 1);
+            x.strays(1, 0);
+            if (law.equals("strays")) {
+                x.tells(1, 50, 0);
             }
             int told = law.equals("strays") ? x.strays(2, 0) : law.equals("asks") ? x.tells(2, 33, 0)
                     : law.equals("fears") ? x.tells(2, 33, 1) : x.fogIn(1);
@@ -199,6 +207,9 @@ public final class TermEdgeTests {
         law("3 + 1 / (2 - 2)", 0);
         law("3 + 1 / (1 / 2)", 0);
         law("3 + (2 - 1 / dark) * 0", 0);
+        law("3 / 1", 3);
+        law("1 / 1 + 2", 3);
+        law("(0 - 3) / (0 - 1)", 3);
         law("3 + 0 / 1", 3);
         law("3 + 0 / (0 - 1)", 3);
         String zero = "1 / 0";
@@ -242,6 +253,22 @@ public final class TermEdgeTests {
         law("20 / 3 * 2 - 9", 3);
         law("2 + 3 * 4 - 12", 2);
         law("(2 + 3) * 4 - 17", 3);
+    }
+
+    /** "UNIT: .. '(' E ')'", six of them within one another, with two numbers waiting at each. */
+    private static void deep() {
+        // 127 and 128 times a number
+        String deep = "1 + 2 * (1 + 2 * (1 + 2 * (1 + 2 * (1 + 2 * (1 + 2 * (1 + 2 * #))))))";
+        String one = deep.replace("#", "1");
+        String two = deep.replace("#", "2");
+        law(one + " - 252", 3);
+        law("if " + one + " < " + two + " then 3 else 4", 3);
+        law("if " + two + " < " + one + " then 3 else 4", 4);
+        law("if " + two + " < " + two + " then 3 else " + one + " - 252", 3);
+        law("if " + one + " < " + two + " then " + two + " - 380 else 4", 3);
+        String no = "if " + two + " < " + one + " then 9 else ";
+        law(no + no + no + "if 254 < " + one + " then 3 else 4", 3);
+        law(no + no + no + "if 255 < " + one + " then 3 else " + one + " - 253", 2);
     }
 
     // ---- LOTS
@@ -294,6 +321,28 @@ public final class TermEdgeTests {
                 }
             }
         }
+    }
+
+    /** ".. is less than STRAYS": of the CORNER where they are at that STEP, only as long as the WALK goes on. */
+    private static void lotsByCorner() {
+        int many = 0;
+        for (int seed = 0; seed < 60; seed++) {
+            LostBuyer x = due.of(SWING + "seed " + seed + ";");
+            for (int s = 0; s < 3; s++) {
+                // from a at STEPS 1, 3, .., from b at 0, 2, .., from z at 2, 4, ..
+                int strayed = -1;
+                for (int i = s == 0 ? 1 : s == 1 ? 0 : 2; i < 8 && strayed < 0; i += 2) {
+                    strayed = lot(4, seed, 8L * s + i) < 1 ? i : -1;
+                }
+                String of = " by SEED " + seed + " of " + s;
+                due.is("STRAYED" + of, x.walk(s, 3), strayed < 0 ? 0 : 1 << strayed);
+                due.is("STEPS" + of, x.walk(s, 2), strayed < 0 ? 8 : strayed + 1);
+                due.is("miles" + of, x.walk(s, 1), strayed < 0 ? 8 : strayed + 1);
+                due.is("where it ends" + of, x.walk(s, 0), strayed >= 0 ? 2 : s == 0 ? 0 : 1);
+                many += strayed == 7 ? 1 : 0;
+            }
+        }
+        due.is("some STRAY at STEP 7 alone", many > 0, true);
     }
 
     /** "An object is used for at most 512 calls after it has been made" */
@@ -489,7 +538,9 @@ public final class TermEdgeTests {
         ifs();
         byZero();
         wraps();
+        deep();
         lots();
+        lotsByCorner();
         calls();
         eightSteps();
         ends();

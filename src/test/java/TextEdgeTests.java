@@ -552,7 +552,9 @@ public final class TextEdgeTests {
         x.call(1);
         x.tell(0, 1, 1, true);
         x.tell(1, 8, 2, false);
-        x.hold(1);
+        for (int slot = 0; slot < 3; slot++) {
+            x.hold(slot);
+        }
         x.days(1);
         x.send(0);
     }
@@ -587,7 +589,7 @@ public final class TextEdgeTests {
         LostBuyer x = Twins.made(TextEdgeTests::lived);
         due.is("the day ahead", x.count(3), 3);
         due.is("TOLD ahead", x.count(10), 2);
-        due.is("SLOTS ahead", x.count(11), 1);
+        due.is("SLOTS ahead", x.count(11), 3);
         due.is("undone ahead", x.count(9), 7);
         due.is("HOME ahead", x.count(7), 2);
         Due.type(x, TOWN);
@@ -616,6 +618,48 @@ public final class TextEdgeTests {
         due.is("read() of an empty tape", x.read(), 0);
         Twins.alike(due, "an empty text", x, new LostBuyer());
         due.is("CORNERS of an empty text", x.count(0), 0);
+    }
+
+    /** "it is in place of the one ahead": nothing of that is left, of however many there were. */
+    private static void nothingLeft() {
+        String much = times("corner # 9;", 7) + times("lane a b 9;lane c d 9;lane e f 9;", 3) + "lane g a 9;"
+                + "post a 9;post b 9;post c 9;post d 9;post e 9;post f 9;post g 9;" + times("seeker #s 9 g;", 5)
+                + "house g;strays=4;asks=5;fears=6;thickens=7;wrong 99;mist 9;seed 9999;";
+        String[] little = {"corner k 1; corner l 2; corner m 3; lane k l 4; seeker n 5 k; ", "corner a 1; seeker b 2 a;", "",
+            "corner g 1; corner f 2; corner e 3; lane g f 1; lane f e 2; lane e g 3; seeker b 2 g; seeker c 3 f; wrong 0; house e;"};
+        for (String text : little) {
+            for (int times = 1; times <= 4; times++) {
+                LostBuyer x = new LostBuyer();
+                for (int i = 0; i < times; i++) {
+                    Due.type(x, much);
+                    due.is("read() of much", x.read(), 0);
+                }
+                Due.type(x, text);
+                due.is("read() of little", x.read(), 0);
+                Twins.alike(due, "behind " + times + " texts: " + text, x, due.of(text));
+            }
+        }
+        LostBuyer x = new LostBuyer();
+        for (int i = 0; i < 5; i++) {
+            // POSTS, TOKENS and LAWS are counted anew in each text
+            Due.type(x, "corner x 1;" + times("post x 1;", 7));
+            due.is("read() of 7 POSTS", x.read(), 0);
+            Due.type(x, "corner x 1; seeker y 1 x; asks=" + times("miles-1+", 96) + "1+1;");
+            due.is("read() of 399 TOKENS", x.read(), 0);
+            due.is("a LAW of many TOKENS", x.tells(0, 1, 0), 2);
+            // what was a TOKEN at that place in the text ahead is none in this one
+            Due.type(x, "corner abcdefgh 1234;");
+            due.is("read() of 8 letters, 4 digits", x.read(), 5);
+            Due.type(x, "corner abcdefghi 1234;");
+            due.is("read() of 9 letters", x.read(), 1);
+            due.is("place() of 9 letters", x.place(), 7);
+            Due.type(x, "corner abcdefgh 12345;");
+            due.is("read() of 5 digits", x.read(), 1);
+            due.is("place() of 5 digits", x.place(), 16);
+            Due.type(x, "corner abcdefgh .;");
+            due.is("read() of no TOKEN", x.read(), 1);
+            due.is("place() of no TOKEN", x.place(), 16);
+        }
     }
 
     // ---- promises 1 to 5
@@ -697,6 +741,15 @@ public final class TextEdgeTests {
         fault(times(" ", 1992) + "mist 10;", 5, 1997);
         fault(times("z", 2000), 1, 0);
         fault(times("1", 2000), 1, 0);
+        // a tape that ends within a word
+        for (String word : WORDS) {
+            for (int length = 1; length <= word.length(); length++) {
+                String blanks = times(" ", 2000 - length);
+                String piece = word.substring(0, length);
+                boolean begins = List.of(BEGIN.split(" ")).contains(piece);
+                fault(blanks + piece, 1, begins ? 2000 : 2000 - length);
+            }
+        }
     }
 
     /** Promise 3: "The last n bytes of the tape go: how many it has. NONE, and nothing goes, if it has not so many, or n is below 0." */
@@ -769,6 +822,7 @@ public final class TextEdgeTests {
         notTold();
         faultChangesNothing();
         inPlace();
+        nothingLeft();
         newObject();
         feedOrder();
         feedFull();
